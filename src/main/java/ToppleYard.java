@@ -509,7 +509,8 @@ public final class ToppleYard {
     }
 
     private static boolean isAskedOfDay(int what) {
-        return what >= DAY_GRAINS && what <= DAY_READY || what >= DAY_HEAP && what < DAY_HEAP + MOST_PLACES;
+        return (what >= DAY_GRAINS && what <= DAY_READY)
+                || (what >= DAY_HEAP && what < DAY_HEAP + MOST_PLACES);
     }
 
     private static boolean setsHeap(int act) {

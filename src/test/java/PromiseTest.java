@@ -636,6 +636,15 @@ public final class PromiseTest {
         due("the first is off", alikeTo(alone, 2, 2), 0);
         due("the second is off", alikeTo(alone, 3, 1), 0);
         due("999", alikeTo(alone, 999, 998), 1);
+        ToppleYard one = yard("y20;p10;p10");
+        due("one path each", alikeTo(one, 0, 7), 1);
+        ToppleYard five = yard("y53333333333;p31;p30;p30;p30;p30");
+        // If place 0 topples twice and the others once, it has 18 less and they are as they were.
+        due("five, 18 more", alikeTo(five, 19, 0, 0, 0, 0), 1);
+        due("five, 9 more", alikeTo(five, 10, 0, 0, 0, 0), 0);
+        heaps(five, 18, 0, 0, 0, 1);
+        due("five, toppled", alikeTo(five, 3, 3, 3, 3, 4), 1);
+        due("five, one off", alikeTo(five, 3, 3, 3, 3, 3), 0);
         Check.row(x, 3, 0, 5, 0, 1, 1, 5);
         due("from 1 on, bytes", x.alike(3, 0, 1), 1);
         due("from 2 on", x.alike(3, 0, 2), 0);
@@ -758,6 +767,10 @@ public final class PromiseTest {
         due("place 2", x.heapings(2), UNKNOWN);
         due("place -1", x.heapings(-1), UNKNOWN);
         ToppleYard alone = yard("y20;p10;p10");
+        alone.heap(0, 20);
+        alone.reading(0, 21);
+        due("20 is too high to be told", alone.heapings(0), 0);
+        alone.back(1);
         alone.reading(0, 20);
         due("19, as high as it goes", alone.heapings(0), 1 << 19);
     }
@@ -1127,5 +1140,10 @@ public final class PromiseTest {
         for (int what : new int[] {-1, 5, MIN, MAX}) {
             due("what " + what, x.many(what), OUTSIDE);
         }
+        ToppleYard five = yard("y50000000000;p11;p22;p33;d14;d15");
+        due("five heaps", five.many(1), 15);
+        Check.yardOf(five, "y20;p11;p22");
+        Check.yardOf(five, "y20;p11;p22");
+        due("two heaps, none of the five", five.many(1), 3);
     }
 }
