@@ -8,10 +8,12 @@ import java.util.regex.Matcher;
 import java.util.regex.Pattern;
 
 /**
- * The document in its sections: a test of an edge first quotes the sentence that it tests. A quote that
+ * The document in its sections, all but what is "Not promised": a test of an edge first quotes the sentence that it tests. A quote that
  * doesn't stand there, and in the end each sentence that no test quotes, is an answer that is not as due.
  */
 final class DocumentText {
+    static final String TITLE = "Title", WHAT_IT_IS = "What it is", FACE = "The public face", INTERFACE = "The interface";
+
     private static final String FILE = "../shared/DOC.md";
     private static final Map<String, String> TEXTS = new LinkedHashMap<>();
     private static final Map<String, boolean[]> QUOTED = new LinkedHashMap<>();
@@ -19,15 +21,19 @@ final class DocumentText {
 
     static {
         String whole = read();
-        int terms = whole.indexOf("## Terms ") + "## Terms ".length();
-        int interfaces = whole.indexOf("Ahead of the calls ");
-        String[] paragraphs = whole.substring(terms, interfaces).split("==== [1-5] ");
+        keep(TITLE, between(whole, "", "## What it is "));
+        keep(WHAT_IT_IS, between(whole, "## What it is ", "## The public face "));
+        keep(FACE, between(whole, "## The public face ", "## Terms "));
+        String[] paragraphs = between(whole, "## Terms ", "Ahead of the calls ").split("==== [1-5] ");
         for (int number = 0; number < paragraphs.length; number++) {
             keep(termsName(number), paragraphs[number]);
         }
-        Matcher m = Pattern.compile("## Promise (\\d+): \\w+(?: \\w+)* `[^`]*`: (.*?)(?=## )").matcher(whole);
+        keep(INTERFACE, whole.substring(whole.indexOf("Ahead of the calls "), whole.indexOf("## Promise 1:")));
+        Matcher m = Pattern.compile("## Promise (\\d+): (\\w+(?: \\w+)* `[^`]*`): (.*?)(?=## )").matcher(whole);
         while (m.find()) {
-            keep(promiseName(Integer.parseInt(m.group(1))), m.group(2));
+            int number = Integer.parseInt(m.group(1));
+            keep(headName(number), m.group(2));
+            keep(promiseName(number), m.group(3));
         }
     }
 
@@ -36,7 +42,8 @@ final class DocumentText {
 
     private static String read() {
         try {
-            return Files.readString(Path.of(FILE)).replace("```text", "").replace("```", "").replaceAll("\\s+", " ");
+            String marked = Files.readString(Path.of(FILE));
+            return marked.replaceAll("```(text|java)?", "").replaceAll("\\s+", " ");
         } catch (IOException e) {
             throw new UncheckedIOException(e);
         }
@@ -47,12 +54,30 @@ final class DocumentText {
         QUOTED.put(name, new boolean[text.length()]);
     }
 
+    private static String between(String whole, String from, String to) {
+        return whole.substring(whole.indexOf(from) + from.length(), whole.indexOf(to));
+    }
+
     private static String termsName(int number) {
         return "Terms " + number;
     }
 
     private static String promiseName(int number) {
         return "Promise " + number;
+    }
+
+    private static String headName(int number) {
+        return "Head of promise " + number;
+    }
+
+    /** What follows tests this of what stands ahead of the terms, or between them and the promises. */
+    static void opening(String section, String quote) {
+        says(section, quote);
+    }
+
+    /** What follows tests this of a promise's head: its name and how it is called. */
+    static void head(int number, String quote) {
+        says(headName(number), quote);
     }
 
     /** What follows tests this of the terms: 0 ahead of the numbered paragraphs, then their numbers. */
@@ -84,7 +109,7 @@ final class DocumentText {
     }
 
     static void dueAllQuoted() {
-        Check.due("sections of the document", TEXTS.size(), 6 + 30);
+        Check.due("sections of the document", TEXTS.size(), 4 + 6 + 30 + 30);
         for (String name : TEXTS.keySet()) {
             StringBuilder left = new StringBuilder();
             for (int c = 0; c < TEXTS.get(name).length(); c++) {

@@ -4,6 +4,7 @@ public final class EdgesTest {
     }
 
     public static void main(String[] args) {
+        OpeningEdges.all();
         TermsEdges.all();
         YardEdges.all();
         GrainEdges.all();
